@@ -48,14 +48,22 @@ public final class MeanGroupsPromises {
     }
 
     /**
-     * Middles that have moved: points 0, 4, 6 with the seeds 0 and 6, so that the mean of group 1
-     * is 5. A point at 3 was nearest to both seeds, but the middles are 0 and 5 now.
+     * The seeds are at 0 and 6, the middles have moved to 3/2 and 5. near(1) tells them apart: the
+     * point at 3 is equally near to both seeds, but nearer to 3/2 than to 5.
      */
     private static MeanGroups moved() {
-        MeanGroups x = with(0, 0, 4, 0, 6, 0);
+        MeanGroups x = with(0, 0, 4, 0, 6, 0, 3, 0);
         x.seed(1, 6, 0);
         x.round();
         return x;
+    }
+
+    private static void dueMoved(int promise, String after, MeanGroups x) {
+        due(promise, "near(1) at the moved middles after " + after, x.near(1), 2);
+    }
+
+    private static void dueAtSeeds(int promise, String after, MeanGroups x) {
+        due(promise, "near(1) at the seeds after " + after, x.near(1), 3);
     }
 
     private static void newObject() {
@@ -115,15 +123,12 @@ public final class MeanGroupsPromises {
         dueStartedOver(2, "add(5, 5)", y, 3);
 
         MeanGroups z = moved();
-        z.add(3, 0);
-        due(2, "near(0), from the seeds", z.near(0), 2);
-        due(2, "near(1), from the seeds", z.near(1), 3);
-        MeanGroups w = moved();
-        w.add(51, 0);
-        w.add(0, -51);
-        // The middles are 0 and 5, so the point at 4 changes nothing; from the seeds it is the same
-        // for groups, but the round would count all of them.
-        due(2, "round() after a refused add", w.round(), 0);
+        for (int[] p : outside) {
+            z.add(p[0], p[1]);
+        }
+        dueMoved(2, "refused adds", z);
+        z.add(0, 1);
+        dueAtSeeds(2, "add(0, 1)", z);
     }
 
     private static void drop() {
@@ -180,12 +185,12 @@ public final class MeanGroupsPromises {
         z.drop(0);
         dueStartedOver(3, "drop(0)", z, 1);
 
-        MeanGroups w = with(0, 0, 4, 0, 6, 0, 3, 0);
-        w.seed(1, 6, 0);
-        w.round();
-        due(3, "near(1), middles 1.5 and 5", w.near(1), 2);
+        MeanGroups w = moved();
+        w.drop(4);
+        w.drop(-1);
+        dueMoved(3, "refused drops", w);
         w.drop(0);
-        due(3, "near(1), from the seeds", w.near(1), 3);
+        dueAtSeeds(3, "drop(0)", w);
     }
 
     private static void seed() {
@@ -228,12 +233,13 @@ public final class MeanGroupsPromises {
         due(4, "group(0)", z.group(0), 1);
         due(4, "group(1)", z.group(1), 0);
 
-        MeanGroups w = with(0, 0, 4, 0, 6, 0, 3, 0);
-        w.seed(1, 6, 0);
-        w.round();
-        due(4, "near(1), middles 1.5 and 5", w.near(1), 2);
+        MeanGroups w = moved();
+        for (int[] s : outside) {
+            w.seed(s[0], s[1], s[2]);
+        }
+        dueMoved(4, "refused seeds", w);
         w.seed(2, 50, 50);
-        due(4, "near(1), from the seeds", w.near(1), 3);
+        dueAtSeeds(4, "seed(2, 50, 50)", w);
     }
 
     private static void groups() {
@@ -258,12 +264,9 @@ public final class MeanGroupsPromises {
         y.round();
         due(5, "group(1)", y.group(1), 1);
 
-        MeanGroups w = with(0, 0, 4, 0, 6, 0, 3, 0);
-        w.seed(1, 6, 0);
-        w.round();
-        due(5, "near(1), middles 1.5 and 5", w.near(1), 2);
+        MeanGroups w = moved();
         w.groups(2);
-        due(5, "near(1), from the seeds", w.near(1), 3);
+        dueAtSeeds(5, "groups(2)", w);
     }
 
     private static void reset() {
@@ -272,17 +275,12 @@ public final class MeanGroupsPromises {
         dueStartedOver(6, "reset()", x, 2);
         due(6, "group(1)", x.group(1), 1);
 
-        MeanGroups w = with(0, 0, 4, 0, 6, 0, 3, 0);
-        w.seed(1, 6, 0);
-        w.groups(3);
-        w.seed(2, 50, 50);
-        w.round();
-        due(6, "near(1), middles 1.5 and 5", w.near(1), 2);
+        MeanGroups w = moved();
+        dueMoved(6, "round()", w);
         w.reset();
-        due(6, "near(0), from the seeds", w.near(0), 2);
-        due(6, "near(1), from the seeds", w.near(1), 3);
-        due(6, "near(2), points, seeds and K as before", w.near(2), 0);
-        due(6, "round()", w.round(), 4);
+        dueAtSeeds(6, "reset()", w);
+        due(6, "near(2), K as before", w.near(2), -1);
+        due(6, "round(), points as before", w.round(), 4);
 
         MeanGroups none = new MeanGroups();
         none.reset();
@@ -313,27 +311,18 @@ public final class MeanGroupsPromises {
         tie.round();
         due(7, "group(0), a tie of 1, 2 and 3", tie.group(0), 1);
 
-        // Middles at 1/3 and 1 (a division that rounds would see 0 and 1, and a tie or another side).
-        MeanGroups third = with(0, 0, 0, 0, 1, 0, 2, 0, 50, 0);
-        third.groups(3);
-        third.seed(0, 0, 0);
-        third.seed(1, 3, 0);
-        third.seed(2, 50, 0);
-        due(7, "round(), the first", third.round(), 5);
-        due(7, "sum(0, 0)", third.sum(0, 0), 1);
-        due(7, "size(0)", third.size(0), 3);
-        due(7, "round(), the second", third.round(), 0);
-
-        // Of the middles 7/3 and 14/3, 7/2 is nearer to neither: 3 is nearer to 7/3, 4 to 14/3.
-        MeanGroups exact = with(2, 0, 2, 0, 3, 0, 4, 0, 5, 0, 5, 0);
+        // A mean is not rounded: the middles are 7/3 and 29/6, and 3 is nearer to the first; if they
+        // were cut to 2 and 4, it would be equally near to both.
+        MeanGroups exact = with(2, 0, 2, 0, 3, 0, 4, 0, 5, 0, 5, 0, 5, 0, 5, 0, 5, 0);
         exact.seed(0, 2, 0);
         exact.seed(1, 5, 0);
         exact.round();
         due(7, "near(0)", exact.near(0), 3);
-        due(7, "near(1)", exact.near(1), 3);
+        due(7, "near(1)", exact.near(1), 6);
         due(7, "round()", exact.round(), 0);
 
-        // Negative sums must not be rounded towards zero either.
+        // Negative means are not rounded either: the middles are 1 and -3/2, so that 0 is nearer to
+        // 1; a mean that is cut to -1 would be equally near.
         MeanGroups below = with(-1, 0, -2, 0, 1, 0, 2, 0, 0, 0);
         below.seed(0, 2, 0);
         below.seed(1, -2, 0);
@@ -341,7 +330,6 @@ public final class MeanGroupsPromises {
         due(7, "group(4), a tie", below.group(4), 0);
         due(7, "sum(0, 0)", below.sum(0, 0), 3);
         due(7, "sum(1, 0)", below.sum(1, 0), -3);
-        // The middles are 1 and -3/2: 0 is nearer to 1.
         due(7, "near(0)", below.near(0), 3);
         due(7, "near(1)", below.near(1), 2);
 
@@ -395,20 +383,27 @@ public final class MeanGroupsPromises {
         due(7, "round(), the second", y.round(), 1);
         due(7, "group(0)", y.group(0), 1);
 
-        // A group that loses its last point keeps the mean it had, not its seed. Point 0 is alone
-        // in group 0 first; see the search in MeanGroupsModel for many more of this kind.
-        MeanGroups z = emptied();
-        due(7, "size of the emptied group", z.size(0), 0);
-        due(7, "near of the emptied group", z.near(0), 0);
+        // A group that loses its last point keeps the mean it had: group 0 is left at (-2, 5); back
+        // at its seed (-11, 1) it would draw point 1 again.
+        MeanGroups z = with(10, 9, -11, 0, -10, -4, 7, 10);
+        z.groups(3);
+        z.seed(0, -11, 1);
+        z.seed(1, -9, -8);
+        z.seed(2, -8, -4);
+        due(7, "round(), the first", z.round(), 4);
+        dueGroups(7, "the first round", z, 2, 0, 2, 0);
+        due(7, "round(), the second", z.round(), 3);
+        dueGroups(7, "the second round", z, 2, 1, 1, 2);
+        due(7, "size(0), emptied", z.size(0), 0);
+        due(7, "near(0), emptied", z.near(0), 0);
+        due(7, "round(), the third", z.round(), 0);
+        due(8, "settle()", z.settle(), 3);
     }
 
-    /** Group 0 takes a point from far away and then loses it to a middle that comes nearer. */
-    private static MeanGroups emptied() {
-        MeanGroups x = with(0, 0, 20, 0, -20, 0);
-        x.seed(0, 40, 40);
-        x.seed(1, 0, 0);
-        x.round();
-        return x;
+    private static void dueGroups(int promise, String after, MeanGroups x, int... want) {
+        for (int i = 0; i < want.length; i++) {
+            due(promise, "group(" + i + ") after " + after, x.group(i), want[i]);
+        }
     }
 
     private static void settle() {
@@ -439,6 +434,43 @@ public final class MeanGroupsPromises {
         one.groups(1);
         due(8, "settle() with one group", one.settle(), 2);
         due(8, "size(0)", one.size(0), 3);
+
+        atMostFortyRounds();
+    }
+
+    /** 24 points that need very many rounds; a few of them, and the seeds, decide how many. */
+    private static MeanGroups slow(int x4, int y4, int x6, int y6, int... seeds) {
+        MeanGroups x = with(11, 2, -2, 10, -8, 35, -5, 7, x4, y4, -50, 39, x6, y6, 30, -9, -19, -41, 10, -1,
+            -22, 42, 5, 32, 6, -17, 10, 8, -17, -2, 48, -36, -4, -2, -14, -48, -42, -38, -4, -1, -24, 47,
+            -10, 31, -1, -7, 35, -18);
+        x.groups(4);
+        for (int g = 0; g < 4; g++) {
+            x.seed(g, seeds[2 * g], seeds[2 * g + 1]);
+        }
+        return x;
+    }
+
+    private static void atMostFortyRounds() {
+        dueRounds("39 rounds", slow(-17, 17, 30, 0, 25, 43, 21, 33, 26, 47, -25, -4), 39);
+        dueRounds("40 rounds", slow(-19, 19, 33, -2, 25, 43, 21, 33, 36, 38, -24, -7), 40);
+        dueRounds("41 rounds", slow(-17, 17, 35, -2, 25, 43, 21, 33, 26, 47, -31, -15), 41);
+        dueRounds("61 rounds", slow(-17, 17, 33, -2, 25, 43, 21, 33, 26, 47, -24, -7), 61);
+    }
+
+    /** How many rounds it needs, counted one by one; settle stops at 40, and round goes on there. */
+    private static void dueRounds(String name, MeanGroups x, int needed) {
+        x.reset();
+        int made = 1;
+        while (x.round() != 0 && made < 100) {
+            made++;
+        }
+        due(7, "rounds until none moves, " + name, made, needed);
+        due(8, "settle(), " + name, x.settle(), Math.min(needed, 40));
+        int more = 1;
+        while (x.round() != 0 && more < 100) {
+            more++;
+        }
+        due(8, "rounds after settle(), " + name, more, Math.max(needed - 40, 1));
     }
 
     private static void group() {
