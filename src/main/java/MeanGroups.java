@@ -150,13 +150,6 @@ public final class MeanGroups {
     }
 
     private int makeRound() {
-        // All points are placed before any middle moves: a round looks at the old middles only.
-        int moved = placePoints();
-        moveMiddles();
-        return moved;
-    }
-
-    private int placePoints() {
         int moved = 0;
         for (int i = 0; i < pointCount; i++) {
             int nearest = nearestGroup(i);
@@ -165,6 +158,8 @@ public final class MeanGroups {
                 moved++;
             }
         }
+        // Not before all points are placed: a round looks at the old middles only.
+        moveMiddles();
         return moved;
     }
 
