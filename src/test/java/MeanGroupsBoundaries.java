@@ -433,6 +433,8 @@ public final class MeanGroupsBoundaries {
             due("sum(0, 0)", x.sum(0, 0), 600);
             due("sum(1, 1)", x.sum(1, 1), -600);
         });
+        test(7, nearest, "distances that pass an int, the emptied group before the great one", () -> dueFar(0, 1));
+        test(7, nearest, "distances that pass an int, the emptied group behind the great one", () -> dueFar(1, 0));
         test(7, nearest, "no point", () -> {
             MeanGroups x = new MeanGroups();
             due("round()", x.round(), 0);
@@ -537,6 +539,35 @@ public final class MeanGroupsBoundaries {
         x.round();
         due("group(0)", x.group(0), want);
         due("size(" + want + ")", x.size(want), 1);
+    }
+
+    /**
+     * The first round puts 23 points into one group, the second takes all of them out again and 19 points
+     * are in the great one. The middles are (-986/23, -2), (-914/19, 99/19) and (-122/5, -136/5) then, and
+     * point 0 has the distances 11124.8, 11455.5 and 11190.4 to them. Whoever multiplies by 23, 23, 19 and
+     * 19 to be rid of the fractions passes 2147483647 with the second, but not with the first.
+     */
+    private static void dueFar(int emptied, int great) {
+        MeanGroups x = with(50, 48, -43, -46, -43, -46, -43, -46, -43, -46, -50, 9);
+        for (int i = 0; i < 18; i++) {
+            x.add(-48, 5);
+        }
+        x.groups(3);
+        x.seed(emptied, -18, -24);
+        x.seed(great, -50, 50);
+        x.seed(2, -10, -32);
+        due("round(), the first", x.round(), 24);
+        due("size(" + emptied + ") after a round", x.size(emptied), 23);
+        due("size(" + great + ") after a round", x.size(great), 1);
+        due("round(), the second", x.round(), 23);
+        due("size(" + emptied + ") after two rounds", x.size(emptied), 0);
+        due("size(" + great + ") after two rounds", x.size(great), 19);
+        due("group(0) after two rounds", x.group(0), 2);
+        due("near(" + emptied + ")", x.near(emptied), 1);
+        due("near(" + great + ")", x.near(great), 19);
+        due("near(2)", x.near(2), 4);
+        due("round(), the third", x.round(), 1);
+        due("group(0) after three rounds", x.group(0), emptied);
     }
 
     private static MeanGroups losesAndTakes() {

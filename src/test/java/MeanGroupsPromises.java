@@ -585,6 +585,24 @@ public final class MeanGroupsPromises {
         dueStartedOver(13, "seed of a group not below K, as it was", x, 2);
     }
 
+    // What README.md shows under "How to use it", call by call: whoever changes one changes the other.
+    private static void exampleOfTheReadme() {
+        MeanGroups x = new MeanGroups();
+        due(4, "README: seed(1, 10, 10)", x.seed(1, 10, 10), 0);
+        due(2, "README: add(1, 2)", x.add(1, 2), 1);
+        due(2, "README: add(2, 1)", x.add(2, 1), 2);
+        due(2, "README: add(9, 11)", x.add(9, 11), 3);
+        due(8, "README: settle()", x.settle(), 2);
+        due(9, "README: group(2)", x.group(2), 1);
+        due(10, "README: size(0)", x.size(0), 2);
+        due(11, "README: sum(0, 1)", x.sum(0, 1), 3);
+        due(12, "README: near(1)", x.near(1), 1);
+        due(3, "README: drop(0)", x.drop(0), 2);
+        due(9, "README: group(1)", x.group(1), -1);
+        due(7, "README: round()", x.round(), 2);
+        due(2, "README: add(51, 0)", x.add(51, 0), -1);
+    }
+
     public static void main(String[] args) {
         newObject();
         add();
@@ -599,6 +617,7 @@ public final class MeanGroupsPromises {
         sum();
         near();
         orderAndLimits();
+        exampleOfTheReadme();
         System.out.println(wrong == 0 ? "all answers are as due" : wrong + " answers are not as due");
         if (wrong != 0) {
             System.exit(1);
