@@ -188,7 +188,8 @@ public final class MeanGroups {
     /** Below 0 if the point is nearer to the first middle, above 0 if nearer to the second. */
     private long compareDistances(int point, int first, int second) {
         // Each distance comes multiplied by its own count squared; the other's count squared
-        // brings both to the same scale.
+        // brings both to the same scale. An emptied group keeps its old count, so two counts can
+        // add up to more than all points, and the products pass an int.
         long firstCount = middleCount[first];
         long secondCount = middleCount[second];
         long toFirst = scaledDistance(point, first) * secondCount * secondCount;
